@@ -64,7 +64,8 @@ public final class FaceTest {
         for (Field field : OutlineEditor.class.getDeclaredFields()) {
             if (!isPrivate(field)) {
                 due(field.getName() + " modifiers", field.getModifiers(), constant);
-                shown.add(field.getType().getName() + " " + field.getName() + " = " + field.get(null));
+                String type = field.getType().getName();
+                shown.add(type + " " + field.getName() + " = " + field.get(null));
             }
         }
         due("constants", shown, CONSTANTS);
@@ -73,7 +74,7 @@ public final class FaceTest {
     public static void main(String[] args) throws IllegalAccessException {
         due("class", OutlineEditor.class.getModifiers(), Modifier.PUBLIC | Modifier.FINAL);
         due("constructors", OutlineEditor.class.getDeclaredConstructors().length, 1);
-        due("public constructors without arguments", OutlineEditor.class.getConstructors().length, 1);
+        due("public constructors", OutlineEditor.class.getConstructors().length, 1);
         due("parameters", OutlineEditor.class.getDeclaredConstructors()[0].getParameterCount(), 0);
         due("nested classes", OutlineEditor.class.getDeclaredClasses().length, 0);
         checkMethods();

@@ -439,7 +439,7 @@ public final class PromiseTest {
         refusesNoPlaces("20: under", OutlineEditor::under);
     }
 
-    // Place 1 is folded and holds 2 to 4, among them a fold of its own; 6 is folded with none under.
+    // Place 1 is folded and holds 2 to 4, with a fold inside; 6 is folded with none under.
     private static OutlineEditor partlyFolded() {
         OutlineEditor x = outline(0, 1, 2, 3, 2, 1, 0, 0, 1);
         x.fold(1, 1);
@@ -480,6 +480,50 @@ public final class PromiseTest {
         refusesNoPlaces("23: rowOf", OutlineEditor::rowOf);
     }
 
+    // Nothing may be read behind the 40th heading, where there is no more room.
+    private static void upToTheLastPlace() {
+        OutlineEditor x = outline(0);
+        for (int k = 1; k < 40; k++) {
+            x.add(1);
+        }
+        due("5 to 23, full: under the first", x.under(0), 39);
+        due("5 to 23, full: under the last", x.under(39), 0);
+        due("5 to 23, full: foldLevel(1)", x.foldLevel(1), 0);
+        due("5 to 23, full: foldLevel(0)", x.foldLevel(0), 1);
+        due("5 to 23, full: rows", x.rows(), 1);
+        due("5 to 23, full: row", x.row(1), NONE);
+        due("5 to 23, full: reveal", x.reveal(39), 1);
+        due("5 to 23, full: rowOf", x.rowOf(39), 39);
+        due("5 to 23, full: down", x.down(39), NONE);
+        due("5 to 23, full: up", x.up(39), 38);
+        due("5 to 23, full: down again", x.down(38), 39);
+        due("5 to 23, full: indent", x.indent(39), 2);
+        due("5 to 23, full: moveUnder", x.moveUnder(39, 0), 39);
+        due("5 to 23, full: moveUnder the last", x.moveUnder(1, 39), 39);
+        due("5 to 23, full: outdent", x.outdent(39), 1);
+        due("5 to 23, full: dissolve", x.dissolve(39), 0);
+        due("5 to 23, full: remove", x.remove(0), 39);
+    }
+
+    // What was removed from the end must not count as standing there still.
+    private static void behindTheLastPlace() {
+        OutlineEditor x = outline(0, 1, 2);
+        x.remove(1);
+        due("5 to 23, removed: under", x.under(0), 0);
+        due("5 to 23, removed: foldLevel", x.foldLevel(0), 0);
+        due("5 to 23, removed: down", outlineOfTwoLessOne().down(0), NONE);
+        due("5 to 23, removed: rows", x.rows(), 1);
+        due("5 to 23, removed: row", x.row(1), NONE);
+        due("5 to 23, removed: place", x.place(1), NONE);
+        due("5 to 23, removed: level", x.level(1), BAD_ARG);
+    }
+
+    private static OutlineEditor outlineOfTwoLessOne() {
+        OutlineEditor x = outline(0, 0);
+        x.remove(1);
+        return x;
+    }
+
     public static void main(String[] args) {
         promise1NewObject();
         promise2Add();
@@ -506,6 +550,8 @@ public final class PromiseTest {
         promise21Rows();
         promise22Row();
         promise23RowOf();
+        upToTheLastPlace();
+        behindTheLastPlace();
         if (wrong != 0) {
             System.exit(1);
         }
