@@ -11,6 +11,8 @@ public final class ModelTest {
     private static final int RUNS = 4000;
     // With the calls that compare the whole outline at the end, a run stays within 512 calls.
     private static final int MOST_CALLS = 180;
+    private static final int LONG_RUNS = 600;
+    private static final int ALL_CALLS = 512;
 
     private static final String[] CALLS = {
         "add", "addAfter", "addUnder", "remove", "dissolve", "indent", "outdent", "up", "down",
@@ -362,9 +364,7 @@ public final class ModelTest {
         return differences.toString();
     }
 
-    private static String run(int calls, int kind) {
-        OutlineEditor x = new OutlineEditor();
-        Tree tree = new Tree();
+    private static String run(OutlineEditor x, Tree tree, int calls, int kind) {
         StringBuilder told = new StringBuilder();
         for (int k = 0; k < calls; k++) {
             String call = chooseCall(kind);
@@ -376,13 +376,17 @@ public final class ModelTest {
                 return told + "differs: " + difference;
             }
         }
+        if (calls > MOST_CALLS) {
+            return "";
+        }
         String differences = compareAll(x, tree);
         return differences.isEmpty() ? "" : told + "differs at the end:\n" + differences;
     }
 
     public static void main(String[] args) {
-        for (int k = 0; k < RUNS; k++) {
-            String told = run(1 + k % MOST_CALLS, k % 3);
+        for (int k = 0; k < RUNS + LONG_RUNS; k++) {
+            int calls = k < RUNS ? 1 + k % MOST_CALLS : ALL_CALLS;
+            String told = run(new OutlineEditor(), new Tree(), calls, k % 3);
             if (!told.isEmpty()) {
                 System.out.println("run " + k + ", a call's second argument told even if unused:");
                 System.out.println(told);
